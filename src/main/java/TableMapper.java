@@ -380,7 +380,7 @@ public final class TableMapper {
         private final int[] kind = new int[MOST_NODES];
         // A GATE with fewer SOURCES has its first one in the places behind, so that each place can be read.
         private final int[] source = new int[MOST_NODES * MOST_SOURCES];
-        private final int[] feedOf = new int[MOST_NODES];
+        private final int[] feeds = new int[MOST_NODES];
         final long[] sources = new long[MOST_NODES];
         final long[] below = new long[MOST_NODES];
         long inputs;
@@ -424,7 +424,7 @@ public final class TableMapper {
 
         int addRegister() {
             registers |= bit(size);
-            feedOf[size] = size;
+            feeds[size] = size;
             return size++;
         }
 
@@ -440,7 +440,7 @@ public final class TableMapper {
         }
 
         void setFeed(int register, int node) {
-            feedOf[register] = node;
+            feeds[register] = node;
         }
 
         int kindOf(int gate) {
@@ -448,7 +448,7 @@ public final class TableMapper {
         }
 
         int feedOf(int register) {
-            return feedOf[register];
+            return feeds[register];
         }
 
         int sourceOf(int gate, int place) {
@@ -459,13 +459,13 @@ public final class TableMapper {
             if (isGate(node)) {
                 return sourceOf(node, place);
             }
-            return isRegister(node) && place == 0 ? feedOf[node] : NONE;
+            return isRegister(node) && place == 0 ? feeds[node] : NONE;
         }
 
         long roots() {
             long roots = outputs;
             for (long left = registers; left != 0; left &= left - 1) {
-                roots |= bit(feedOf[lowest(left)]);
+                roots |= bit(feeds[lowest(left)]);
             }
             return roots;
         }
@@ -791,28 +791,38 @@ public final class TableMapper {
         private void learnKept(int gate) {
             row.clear();
             row.add(near[gate], placeInRow(near[gate]));
-            for (int i = 0; i < choices(gate, 0); i++) {
-                long one = choice(gate, 0, i);
-                for (int j = 0; j < choices(gate, 1); j++) {
-                    long two = one | choice(gate, 1, j);
-                    for (int m = 0; m < choices(gate, 2); m++) {
-                        addIfSmall(two | choice(gate, 2, m));
-                    }
+            int ofFirst = choices(gate, 0);
+            int ofSecond = choices(gate, 1);
+            for (int i = 0; i < ofFirst; i++) {
+                for (int j = 0; j < ofSecond; j++) {
+                    addWithThird(gate, choice(gate, 0, i) | choice(gate, 1, j));
                 }
             }
-            int size = 0;
-            long first = row.takeFirst();
-            while (first != 0 && size < MOST_KEPT) {
-                kept[gate * MOST_KEPT + size] = first;
-                size++;
-                first = row.takeFirst();
-            }
-            keptSize[gate] = size;
+            takeKept(gate);
         }
 
-        private void addIfSmall(long cut) {
-            if (Long.bitCount(cut) <= k) {
-                row.add(cut, placeInRow(cut));
+        private void takeKept(int gate) {
+            keptSize[gate] = 0;
+            for (int c = 0; c < MOST_KEPT; c++) {
+                long cut = row.takeFirst();
+                if (cut == 0) {
+                    return;
+                }
+                kept[gate * MOST_KEPT + c] = cut;
+                keptSize[gate] = c + 1;
+            }
+        }
+
+        private void addWithThird(int gate, long ofTwo) {
+            if (Long.bitCount(ofTwo) > k) {
+                return;
+            }
+            int choices = choices(gate, 2);
+            for (int i = 0; i < choices; i++) {
+                long cut = ofTwo | choice(gate, 2, i);
+                if (Long.bitCount(cut) <= k) {
+                    row.add(cut, placeInRow(cut));
+                }
             }
         }
 
@@ -843,6 +853,8 @@ public final class TableMapper {
 
     /** CHOSEN of each GATE, and the TABLES and ARRIVALS that come of it. */
     private static final class Cover {
+        private static final int NOT_DUE = 1000;
+
         private final Network network;
         private final int[] due = new int[MOST_NODES];
         final long[] chosen = new long[MOST_NODES];
@@ -859,7 +871,7 @@ public final class TableMapper {
                 chosen[gate] = cuts.near[gate];
                 arrival[gate] = arrivalBy(chosen[gate]);
             }
-            tables = tablesBy(network.roots() & network.gates);
+            tables = withChosen(network.roots() & network.gates, network.size - 1, 0);
         }
 
         /** Answers how many TABLES fewer there are. */
@@ -870,8 +882,10 @@ public final class TableMapper {
             for (long left = network.gates; left != 0; left &= left - 1) {
                 int gate = lowest(left);
                 if (has(tables, gate)) {
-                    chosen[gate] = bestCut(cuts, gate, roots & network.gates);
-                    tables = tablesBy(roots & network.gates);
+                    // No GATE below can ask for this one or a higher one, so these are TABLES whatever is chosen here.
+                    long higher = withChosen(roots & network.gates, network.size - 1, gate + 1);
+                    chosen[gate] = bestCut(cuts, gate, higher);
+                    tables = tablesWith(chosen[gate], higher, gate);
                 }
                 arrival[gate] = arrivalBy(chosen[gate]);
             }
@@ -924,9 +938,10 @@ public final class TableMapper {
             return 1 + greatestArrival(cut);
         }
 
-        private long tablesBy(long rootGates) {
-            long found = rootGates;
-            for (int node = network.size - 1; node >= 0; node--) {
+        /** These GATES and those in the CHOSEN of the ones between two numbers, on and on. */
+        private long withChosen(long tablesSoFar, int highest, int least) {
+            long found = tablesSoFar;
+            for (int node = highest; node >= least; node--) {
                 if (has(found, node)) {
                     found |= chosen[node] & network.gates;
                 }
@@ -934,9 +949,13 @@ public final class TableMapper {
             return found;
         }
 
+        private long tablesWith(long cut, long higher, int gate) {
+            return withChosen(higher | cut & network.gates, gate - 1, 0);
+        }
+
         private void findDue(long roots, int dueOfRoots) {
             for (int node = 0; node < network.size; node++) {
-                due[node] = has(roots, node) ? dueOfRoots : Integer.MAX_VALUE;
+                due[node] = has(roots, node) ? dueOfRoots : NOT_DUE;
             }
             for (int node = network.size - 1; node >= 0; node--) {
                 if (has(tables, node)) {
@@ -948,9 +967,9 @@ public final class TableMapper {
             }
         }
 
-        private long bestCut(Cuts cuts, int gate, long rootGates) {
+        private long bestCut(Cuts cuts, int gate, long higher) {
             long best = chosen[gate];
-            int fewest = Long.bitCount(tablesBy(rootGates));
+            int fewest = Long.bitCount(tablesWith(best, higher, gate));
             int soonest = arrivalBy(best);
             for (int c = 0; c < MOST_KEPT; c++) {
                 long cut = cuts.keptCut(gate, c);
@@ -959,7 +978,7 @@ public final class TableMapper {
                 }
                 int arrives = arrivalBy(cut);
                 if (arrives <= due[gate]) {
-                    int many = countTablesWith(gate, cut, rootGates);
+                    int many = Long.bitCount(tablesWith(cut, higher, gate));
                     if (many < fewest || many == fewest && arrives < soonest) {
                         best = cut;
                         fewest = many;
@@ -968,14 +987,6 @@ public final class TableMapper {
                 }
             }
             return best;
-        }
-
-        private int countTablesWith(int gate, long cut, long rootGates) {
-            long kept = chosen[gate];
-            chosen[gate] = cut;
-            int many = Long.bitCount(tablesBy(rootGates));
-            chosen[gate] = kept;
-            return many;
         }
     }
 
@@ -1100,7 +1111,7 @@ public final class TableMapper {
 
         /** NONE, if there are too many TABLES. */
         int mostPairs() {
-            return Long.bitCount(cover.tables) > MOST_TABLES_TO_PAIR ? NONE : mostPairs(mates, cover.tables, 0);
+            return Long.bitCount(cover.tables) > MOST_TABLES_TO_PAIR ? NONE : mostPairsOf(mates, cover.tables, 0);
         }
 
         private void findMates(int mostNodes) {
@@ -1205,7 +1216,7 @@ public final class TableMapper {
         }
 
         /** A TABLE that has a mate left is in a pair in one of the ways with the most pairs, so none is passed by. */
-        private static int mostPairs(long[] mates, long left, int depth) {
+        private static int mostPairsOf(long[] mates, long left, int depth) {
             long able = withMates(mates, left);
             if (able == 0 || depth > MOST_TABLES_TO_PAIR) {
                 return 0;
@@ -1215,7 +1226,7 @@ public final class TableMapper {
             int most = 0;
             for (long with = mates[table] & able; with != 0 && most < bound; with &= with - 1) {
                 long rest = able & ~bit(table) & ~bit(lowest(with));
-                most = Math.max(most, 1 + mostPairs(mates, rest, depth + 1));
+                most = Math.max(most, 1 + mostPairsOf(mates, rest, depth + 1));
             }
             return most;
         }
