@@ -26,6 +26,7 @@ public final class PromisesTest {
         map();
         again();
         againWithSlack();
+        againWithDue();
         set();
         clock();
         node();
@@ -354,6 +355,30 @@ public final class PromisesTest {
             due("9: later than DUE, but CHOSEN in any case", x.again(0), 0);
             due("9: CHOSEN of 8 then", x.chosen(8), slack == 0 ? set(1, 5, 6) : set(3, 4, 7));
         }
+    }
+
+    /** 9 is a ROOT, but 11 is due one later than it: so it is due ahead of other ROOTS. */
+    private static void againWithDue() {
+        TableMapper x = withInputs(3, 5);
+        x.gate(AND, 2, 0, 0);
+        x.gate(MOST, 0, 2, 5);
+        x.gate(AND, 1, 5, 0);
+        x.gate(AND, 7, 4, 0);
+        x.gate(AND, 8, 6, 0);
+        x.gate(MOST, 3, 9, 3);
+        x.gate(AND, 10, 3, 0);
+        for (int node : new int[] {7, 8, 9, 11}) {
+            x.output(node);
+        }
+        due("9: TABLES", x.map(), 5);
+        due("9: DEPTH", x.depth(), 3);
+        due("9: 9 would be too late for 11", x.again(0), 0);
+        due("9: CHOSEN of 9", x.chosen(9), set(4, 6, 7));
+        due("9: with a SLACK", x.again(1), 1);
+        due("9: CHOSEN of 9 then", x.chosen(9), set(0, 2, 8));
+        due("9: ARRIVAL of 11", x.mapped(1), 4);
+        due("19: no TABLE", x.table(10, 0), 0);
+        due("19: ARRIVAL of no TABLE", x.table(10, 1), 4);
     }
 
     private static void set() {
