@@ -339,7 +339,9 @@ public final class TableMapper {
 
     private Cuts cutsOfK() {
         Cuts cuts = cutsByK[k - LEAST_K];
-        cuts.learnNewNodes();
+        for (int node = cuts.learnt; node < network.size; node++) {
+            cuts.learn(node);
+        }
         return cuts;
     }
 
@@ -612,28 +614,17 @@ public final class TableMapper {
             seeUppers(starts, NONE);
             for (int i = 0; i < queued; i++) {
                 int end = queue[i];
-                if (end < MOST_NODES) {
-                    goOnFromUpper(end);
-                } else if (has(network.gates, end - MOST_NODES)) {
-                    goOnFromLower(end - MOST_NODES);
+                int node = end < MOST_NODES ? end : end - MOST_NODES;
+                if (end == node) {
+                    seeLower(has(onWays, node) ? aheadOnWay[node] : node, end);
+                } else if (has(network.gates, node)) {
+                    long itself = onWays & bit(node);
+                    seeUppers(network.sources[node] | itself, end);
                 } else {
-                    return end - MOST_NODES;
+                    return node;
                 }
             }
             return NONE;
-        }
-
-        private void goOnFromUpper(int node) {
-            if (!has(onWays, node)) {
-                seeLower(node, node);
-            } else if (aheadOnWay[node] != NONE) {
-                seeLower(aheadOnWay[node], node);
-            }
-        }
-
-        private void goOnFromLower(int node) {
-            long next = network.sources[node];
-            seeUppers(has(onWays, node) ? next | bit(node) : next, node + MOST_NODES);
         }
 
         private void seeUppers(long nodes, int from) {
@@ -646,7 +637,7 @@ public final class TableMapper {
         }
 
         private void seeLower(int node, int from) {
-            if (!has(lowerSeen, node)) {
+            if (node != NONE && !has(lowerSeen, node)) {
                 lowerSeen |= bit(node);
                 cameFrom[node + MOST_NODES] = from;
                 queue[queued++] = node + MOST_NODES;
@@ -733,7 +724,7 @@ public final class TableMapper {
         final long[] near = new long[MOST_NODES];
         private final long[] kept = new long[MOST_NODES * MOST_KEPT];
         private final int[] keptSize = new int[MOST_NODES];
-        private int learnt;
+        int learnt;
 
         Cuts(Network network, Ways ways, Row row, int k) {
             this.network = network;
@@ -742,14 +733,25 @@ public final class TableMapper {
             this.k = k;
         }
 
-        void learnNewNodes() {
-            for (int node = learnt; node < network.size; node++) {
-                if (has(network.gates, node)) {
-                    learnNear(node);
-                    learnKept(node);
-                }
+        /**
+         * Each NODE once, by numbers. A LEVEL is never less than that of what is below, and at most 1 more than the
+         * greatest of the SOURCES: so it is that one, if there is a cut without any NODE that has it.
+         */
+        void learn(int node) {
+            learnt = node + 1;
+            if (!has(network.gates, node)) {
+                return;
             }
-            learnt = network.size;
+            int least = greatestLevel(network.sources[node]);
+            long cut = least == 0 ? 0 : ways.nearestCut(bit(node) | belowAtLevel(node, least), k);
+            if (cut != 0) {
+                level[node] = least;
+                near[node] = cut;
+            } else {
+                level[node] = least + 1;
+                near[node] = ways.nearestCut(bit(node), k);
+            }
+            learnKept(node);
         }
 
         int greatestLevel(long nodes) {
@@ -762,19 +764,6 @@ public final class TableMapper {
 
         long keptCut(int gate, int c) {
             return c < keptSize[gate] ? kept[gate * MOST_KEPT + c] : 0;
-        }
-
-        /** A LEVEL is never less than that of what is below, and at most 1 more than the greatest of the SOURCES. */
-        private void learnNear(int gate) {
-            int least = greatestLevel(network.sources[gate]);
-            long cut = least == 0 ? 0 : ways.nearestCut(bit(gate) | belowAtLevel(gate, least), k);
-            if (cut != 0) {
-                level[gate] = least;
-                near[gate] = cut;
-            } else {
-                level[gate] = least + 1;
-                near[gate] = ways.nearestCut(bit(gate), k);
-            }
         }
 
         private long belowAtLevel(int gate, int wanted) {
@@ -842,12 +831,17 @@ public final class TableMapper {
 
         /** A number by which cuts are in ROW. */
         private long placeInRow(long cut) {
-            int size = Long.bitCount(cut);
-            long place = (long) greatestLevel(cut) << SIZE_BITS | size;
-            for (long left = cut; left != 0; left &= left - 1) {
-                place = place << NODE_BITS | lowest(left);
+            long nodes = 0;
+            int size = 0;
+            int greatest = 0;
+            for (long left = cut; left != 0 && size < GREATEST_K; left &= left - 1) {
+                int node = lowest(left);
+                nodes = nodes << NODE_BITS | node;
+                greatest = Math.max(greatest, level[node]);
+                size++;
             }
-            return place << NODE_BITS * (GREATEST_K - size);
+            long head = (long) greatest << SIZE_BITS | size;
+            return head << NODE_BITS * GREATEST_K | nodes << NODE_BITS * (GREATEST_K - size);
         }
     }
 
