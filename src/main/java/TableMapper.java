@@ -662,7 +662,10 @@ public final class TableMapper {
         }
     }
 
-    /** Cuts out of which the first in ROW are taken, each with all that have all its NODES. */
+    /**
+     * Cuts out of which the first in ROW are taken. One with all NODES of another one is behind that in ROW (its LEVEL
+     * is not less, its NODES are more), so it is enough to drop it as the other one is taken.
+     */
     private static final class Row {
         private static final int MOST = 1 + (1 + MOST_KEPT) * (1 + MOST_KEPT) * (1 + MOST_KEPT);
 
