@@ -221,6 +221,9 @@ public final class PromisesTest {
         due("4: stays MAPPED", x.count(6), 1);
         due("4: CELLS", x.mapped(4), 40);
         due("4: none is another one", x.clock(1), 0);
+        due("23: each by itself", x.clusters(1, 6), 40);
+        due("24: the last", x.cluster(1, 6, 39), 39);
+        due("23: five times 8", x.clusters(8, 16), 5);
     }
 
     private static void feed() {
