@@ -60,6 +60,11 @@ final class CutEdges {
             2 * input(); gate(AND, 0, 0, 0); gate(MOST, 2, 0, 2); gate(PICK, 3, 2, 3); gate(XOR, 4, 1, 0)
             node([2..5], 7) = 1 2 3 5
             """);
+        edges.run("each once, by any two of three SOURCES", """
+            3 * input(); gate(AND, 0, 1, 0); gate(AND, 0, 2, 0); gate(MOST, 3, 0, 2); gate(MOST, 2, 3, 0)
+            gate(MOST, 0, 2, 3); gate(PICK, 2, 3, 4); gate(PICK, 3, 4, 2); gate(PICK, 3, 2, 4); gate(PICK, 3, 1, 4)
+            node([3..11], 7) = 2 2 4 4 4 5 5 5 5
+            """);
         edges.run("39, the most", CHAIN + "node([0..39], 7) = [0..39]");
         edges.sentence(12, "LEAVES: INPUTS and REGISTERS.");
         edges.run("LEVEL, and the end of a way, at both", """
@@ -70,8 +75,8 @@ final class CutEdges {
     }
 
     private static void level(Edges edges) {
-        edges.sentence(12, "LEVEL: 0 of a LEAF; of a GATE 1 more than the greatest LEVEL in a CUT, "
-                + "that by which this is least.");
+        edges.sentence(12, "LEVEL: 0 of a LEAF; of a GATE 1 more than the greatest LEVEL in a CUT, that by which this "
+                + "is least.");
         edges.run("K LEAVES and one more, for each K", STAIRS + """
             node([0..6], 5) = 0
             inputs(3); node([7..12], 5) = 1 1 2 2 3 3
@@ -82,7 +87,7 @@ final class CutEdges {
         edges.run("a REGISTER in between", """
             input(); gate(NOT, 0, 0, 0); register(); feed(2, 1); gate(NOT, 2, 0, 0); node([0..3], 5) = 0 1 0 1
             """);
-        edges.run("39 GATES, and one LEVEL", CHAIN + "inputs(3); node([0..39], 5) = 0 " + "1 ".repeat(39));
+        edges.run("39 GATES, and one LEVEL", CHAIN + "inputs(3); node(0, 5) = 0; node([1..39], 5) = 1");
         // Each MOST has two INPUTS of its own, so no CUT of three NODES goes across two of them.
         edges.run("13 LEVELS of 40 NODES", """
             inputs(3); 27 * input(); gate(MOST, 0, 1, 2); gate(MOST, 27, 3, 4); gate(MOST, 28, 5, 6)
@@ -96,8 +101,8 @@ final class CutEdges {
     }
 
     private static void near(Edges edges) {
-        edges.sentence(13, "The i-th (from 0) of the NEAR CUT of a GATE, upwards, how many (i NONE); "
-                + "NONE: others, none such.");
+        edges.sentence(13, "The i-th (from 0) of the NEAR CUT of a GATE, upwards, how many (i NONE); NONE: others, "
+                + "none such.");
         edges.run("the first, the last and one more, of K NODES", STAIRS + """
             inputs(3); near(8, [MIN -2 -1 0 1 2 3 4 MAX]) = -1 -1 3 0 1 2 -1 -1 -1
             inputs(6); near(11, [MIN -2 -1 0 1 2 3 4 5 6 7 64 MAX]) = -1 -1 6 0 1 2 3 4 5 -1 -1 -1 -1
@@ -105,8 +110,12 @@ final class CutEdges {
         edges.run("of one NODE", CHAIN + "near([1 39], [-2 -1 0 1]) = -1 1 0 -1 -1 1 0 -1");
         edges.run("no GATE", STAIRS + "register(); near([0 6 13 14], [-1 0]) = -1; near(" + WRONG + ", [-1 0]) = -1");
         edges.run("the last of 40", "38 * input(); register(); gate(AND, 38, 37, 0); near(39, [-1..2]) = 2 37 38 -1");
-        edges.sentence(13, "NEAR CUT of a GATE: of its CUTS by which its LEVEL is that one with the fewest NODES, "
-                + "of these that with the fewest GATES in its CONE (there is just one).");
+        edges.run("as long a way down as can be", """
+            inputs(3); 4 * input(); gate(MOST, 0, 1, 2); gate(NOT, [4..37], 0, 0) = [5..38]; gate(AND, 38, 3, 0) = 39
+            node(39, 5) = 2; near(39, [-1..2]) = 2 3 38 -1; cone([38 39]) = 35 1
+            """);
+        edges.sentence(13, "NEAR CUT of a GATE: of its CUTS by which its LEVEL is that one with the fewest NODES, of "
+                + "these that with the fewest GATES in its CONE (there is just one).");
         edges.run("the LEVEL ahead of the fewest NODES", """
             3 * input(); gate(MOST, 0, 1, 2); gate(NOT, 3, 0, 0); near(4, [-1..3]) = 3 0 1 2 -1; cone(4) = 2
             """);
@@ -147,8 +156,8 @@ final class CutEdges {
     }
 
     private static void row(Edges edges) {
-        edges.sentence(15, "CUTS are in ROW: by 1 more than the greatest LEVEL in them, upwards, then by how many NODES, "
-                + "upwards, then by their lowest NODES, the second ones, on and on, upwards.");
+        edges.sentence(15, "CUTS are in ROW: by 1 more than the greatest LEVEL in them, upwards, then by how many "
+                + "NODES, upwards, then by their lowest NODES, the second ones, on and on, upwards.");
         edges.run("the LEVEL ahead of how many", STAIRS + """
             inputs(4); kept(8, [0..2]) = {0 1 2} {2 7} 0; kept(9, [0..3]) = {0 1 2 3} {3 8} {2 3 7} 0
             """);
@@ -209,9 +218,10 @@ final class CutEdges {
             kept(7, [0..8]) = {0 1 2} {1 3} {1 4} {3 5} {3 6} {4 5} {4 6} {0 2 5} 0; isCut(7, {0 2 6}) = true
             kept(8, [0..8]) = {0 1 2} {0 1 3} {0 1 4} {0 2 5} {0 2 7} {0 3 5} {0 3 6} {0 3 7} 0
             """);
-        edges.sentence(15, "KEPT CUTS of a GATE: of its NEAR CUT, and of all that come of one set for each of its SOURCES "
-                + "(it alone, or, of a GATE, a KEPT CUT of it), together");
-        edges.run("its SOURCES alone", "inputs(3); 2 * input(); register(); gate(PICK, 2, 1, 0); kept(3, [0 1]) = {0 1 2} 0");
+        edges.sentence(15, "KEPT CUTS of a GATE: of its NEAR CUT, and of all that come of one set for each of its "
+                + "SOURCES (it alone, or, of a GATE, a KEPT CUT of it), together");
+        edges.run("its SOURCES alone", "inputs(3); 2 * input(); register(); gate(PICK, 2, 1, 0); "
+                + "kept(3, [0 1]) = {0 1 2} 0");
         edges.run("of a REGISTER it alone", """
             input(); gate(NOT, 0, 0, 0); register(); feed(2, 1); gate(NOT, 2, 0, 0); kept(3, [0 1]) = {2} 0
             """);
@@ -228,18 +238,18 @@ final class CutEdges {
 
     private static void isCut(Edges edges) {
         edges.sentence(16, "Whether these NODES, as bits, are a CUT of a GATE; false: others.");
-        edges.run("no GATE", STAIRS + "register(); isCut([0 6 13 14], [0 1 {0 1} -1]) = false; isCut(" + WRONG
-                + ", [0 1 {0 1} -1]) = false");
+        edges.run("no GATE", STAIRS + "register(); isCut([0 6 13 14], [0 1 {0 1} -1]) = false; isCut(" + WRONG + ", [0 "
+                + "1 {0 1} -1]) = false");
         edges.run("no NODE, and every one", STAIRS + """
             isCut(7, [0 {0 1} LMIN LMAX -1]) = false true false false false
             """);
         edges.run("bits that are no NODES", STAIRS + """
             inputs(6); isCut(7, [{0 1 13} {0 1 31} {0 1 32} {0 1 40} {0 1 63} {32 33} {40 41}]) = false
             """);
-        edges.run("bit 38", "38 * input(); register(); gate(NOT, 38, 0, 0); isCut(39, [{38} {39} {6} {37}]) = true false "
-                + "false false");
-        edges.sentence(16, "A CUT of a GATE: K NODES at most BELOW it, so that each way from it by SOURCES to a LEAF has one "
-                + "of them (the LEAF, too).");
+        edges.run("bit 38", "38 * input(); register(); gate(NOT, 38, 0, 0); "
+                + "isCut(39, [{38} {39} {6} {37}]) = true false false false");
+        edges.sentence(16, "A CUT of a GATE: K NODES at most BELOW it, so that each way from it by SOURCES to a LEAF "
+                + "has one of them (the LEAF, too).");
         edges.run("K NODES and one more, for each K", STAIRS + """
             inputs(3); isCut(8, {0 1 2}) = true; isCut(8, {0 1 2 7}) = false; isCut(9, [{2 3 7} {0 1 2 3}]) = true false
             inputs(4); isCut(8, {0 1 2 7}) = true; isCut(9, [{0 1 2 3} {0 1 2 3 8}]) = true false

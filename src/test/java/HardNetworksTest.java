@@ -45,26 +45,29 @@ public final class HardNetworksTest {
     }
 
     private static void compare(String[] rows) {
-        TableMapper mapper = new TableMapper();
+        Subject mapper = new Subject();
         Reference reference = new Reference();
         int[] head = numbers(rows[0]);
-        mapper.inputs(head[0]);
+        mapper.change(x -> x.inputs(head[0]));
         reference.inputs(head[0]);
         for (int i = 0; i < head[1]; i++) {
-            mapper.input();
+            mapper.change(TableMapper::input);
             reference.input();
         }
         for (int row = 1; row < rows.length; row++) {
             int[] gate = numbers(rows[row]);
-            int node = mapper.gate(gate[0], gate[1], gate[2], gate[3]);
+            int node = (int) mapper.change(x -> x.gate(gate[0], gate[1], gate[2], gate[3]));
             CHECKS.due("gate", node, reference.gate(gate[0], gate[1], gate[2], gate[3]));
-            CHECKS.due("LEVEL of " + node, mapper.node(node, 5), reference.node(node, 5));
-            CHECKS.due("cone(" + node + ")", mapper.cone(node), reference.cone(node));
+            CHECKS.due("LEVEL of " + node, mapper.ask(x -> x.node(node, 5)), reference.node(node, 5));
+            CHECKS.due("cone(" + node + ")", mapper.ask(x -> x.cone(node)), reference.cone(node));
             for (int i = TableMapper.NONE; i < 6; i++) {
-                CHECKS.due("near(" + node + ", " + i + ")", mapper.near(node, i), reference.near(node, i));
+                int place = i;
+                CHECKS.due("near(" + node + ", " + i + ")", mapper.ask(x -> x.near(node, place)),
+                        reference.near(node, i));
             }
-            for (int c = 0; c < 9; c++) {
-                CHECKS.due("kept(" + node + ", " + c + ")", mapper.kept(node, c), reference.kept(node, c));
+            for (int i = 0; i < 9; i++) {
+                int c = i;
+                CHECKS.due("kept(" + node + ", " + c + ")", mapper.ask(x -> x.kept(node, c)), reference.kept(node, c));
             }
         }
     }

@@ -979,6 +979,11 @@ public final class PromisesTest {
         }
         due("27: the next NODE", x.comes(13), NONE);
         for (int bits = 0; bits < 128; bits++) {
+            // 512 calls are the most that an object is used for.
+            if (bits % 32 == 0) {
+                x = fourTables();
+                x.map();
+            }
             for (int i = 0; i < 7; i++) {
                 x.set(i, (bits >> i & 1) != 0);
             }

@@ -10,7 +10,7 @@ public final class RandomMapsTest {
     private final Checks checks = new Checks();
     private final String name;
     private final Random random;
-    private final TableMapper mapper = new TableMapper();
+    private final Subject mapper = new Subject();
     private final Reference reference = new Reference();
     private int size;
 
@@ -42,15 +42,15 @@ public final class RandomMapsTest {
     /** Answers how often AGAIN made TABLES fewer. */
     private int run() {
         int k = 3 + random.nextInt(4);
-        due("inputs", mapper.inputs(k), reference.inputs(k));
+        due("inputs", mapper.change(x -> x.inputs(k)), reference.inputs(k));
         build();
         compareCuts();
-        due("map", mapper.map(), reference.map());
+        due("map", mapper.change(TableMapper::map), reference.map());
         compareTables();
         int fewer = 0;
         for (int i = 0; i < 4; i++) {
             int slack = random.nextInt(3) == 0 ? random.nextInt(6) : i / 2;
-            int got = mapper.again(slack);
+            long got = mapper.change(x -> x.again(slack));
             due("again(" + slack + ")", got, reference.again(slack));
             fewer += got > 0 ? 1 : 0;
             compareTables();
@@ -73,23 +73,24 @@ public final class RandomMapsTest {
                 int a = source(node, window);
                 int b = another(a, a, node, window);
                 int c = another(a, b, node, window);
-                due("gate", mapper.gate(kind, a, b, c), reference.gate(kind, a, b, c));
+                due("gate", mapper.change(x -> x.gate(kind, a, b, c)), reference.gate(kind, a, b, c));
                 used |= 1L << a | (kind > 0 ? 1L << b : 0) | (kind > 4 ? 1L << c : 0);
             }
         }
         feedRegisters();
         for (int node = size - 1; node >= 0; node--) {
             if ((used >> node & 1) == 0 || random.nextInt(20) == 0) {
-                due("output", mapper.output(node), reference.output(node));
+                int root = node;
+                due("output", mapper.change(x -> x.output(root)), reference.output(node));
             }
         }
     }
 
     private void addLeaf() {
         if (random.nextInt(3) == 0) {
-            due("register", mapper.register(), reference.register());
+            due("register", mapper.change(TableMapper::register), reference.register());
         } else {
-            due("input", mapper.input(), reference.input());
+            due("input", mapper.change(TableMapper::input), reference.input());
         }
     }
 
@@ -109,56 +110,68 @@ public final class RandomMapsTest {
     private void feedRegisters() {
         for (int node = 0; node < size; node++) {
             int fed = random.nextInt(3) == 0 ? random.nextInt(size) : size - 1 - random.nextInt(size / 3);
-            due("feed", mapper.feed(node, fed) ? 1 : 0, reference.feed(node, fed) ? 1 : 0);
+            int register = node;
+            due("feed", mapper.change(x -> x.feed(register, fed) ? 1 : 0), reference.feed(node, fed) ? 1 : 0);
         }
     }
 
     private void compareCuts() {
         for (int node = 0; node < size; node++) {
-            due("LEVEL of " + node, mapper.node(node, 5), reference.node(node, 5));
-            due("cone(" + node + ")", mapper.cone(node), reference.cone(node));
-            for (int i = TableMapper.NONE; i < 7; i++) {
-                due("near(" + node + ", " + i + ")", mapper.near(node, i), reference.near(node, i));
-            }
-            for (int c = 0; c < 9; c++) {
-                due("kept(" + node + ", " + c + ")", mapper.kept(node, c), reference.kept(node, c));
-            }
+            compareCutsOf(node);
         }
-        due("depth()", mapper.depth(), reference.depth());
+        due("depth()", mapper.ask(TableMapper::depth), reference.depth());
+    }
+
+    private void compareCutsOf(int node) {
+        due("LEVEL of " + node, mapper.ask(x -> x.node(node, 5)), reference.node(node, 5));
+        due("cone(" + node + ")", mapper.ask(x -> x.cone(node)), reference.cone(node));
+        for (int i = 0; i < 9; i++) {
+            int c = i;
+            due("kept(" + node + ", " + c + ")", mapper.ask(x -> x.kept(node, c)), reference.kept(node, c));
+            due("near(" + node + ", " + (c - 1) + ")", mapper.ask(x -> x.near(node, c - 1)),
+                    reference.near(node, c - 1));
+        }
     }
 
     private void compareTables() {
-        for (int what = 0; what < 6; what++) {
-            due("mapped(" + what + ")", mapper.mapped(what), reference.mapped(what));
+        for (int gate = 0; gate < size; gate++) {
+            compareTable(gate);
         }
         int node = random.nextInt(size);
-        for (int gate = 0; gate < size; gate++) {
-            due("chosen(" + gate + ")", mapper.chosen(gate), reference.chosen(gate));
-            due("ARRIVAL of " + gate, mapper.table(gate, 1), reference.table(gate, 1));
-            due("slow(" + gate + ")", mapper.slow(gate), reference.slow(gate));
-            due("comes(" + gate + ")", mapper.comes(gate), reference.is(gate));
-        }
         for (int what = 0; what < 6; what++) {
-            due("table(" + node + ", " + what + ")", mapper.table(node, what), reference.table(node, what));
-            due("cell(" + node / 3 + ", " + what + ")", mapper.cell(node / 3, what), reference.cell(node / 3, what));
+            compareWhat(node, node / 3, what);
         }
         if (reference.holds(node) != null) {
-            due("holds(" + node + ")", mapper.holds(node), reference.holds(node));
+            due("holds(" + node + ")", mapper.ask(x -> x.holds(node)), reference.holds(node));
         }
-        due("set", mapper.set(node, true), reference.set(node, true));
-        due("clock", mapper.clock(1), reference.clock(1));
+        due("set", mapper.change(x -> x.set(node, true)), reference.set(node, true));
+        due("clock", mapper.change(x -> x.clock(1)), reference.clock(1));
+    }
+
+    private void compareTable(int gate) {
+        due("chosen(" + gate + ")", mapper.ask(x -> x.chosen(gate)), reference.chosen(gate));
+        due("ARRIVAL of " + gate, mapper.ask(x -> x.table(gate, 1)), reference.table(gate, 1));
+        due("slow(" + gate + ")", mapper.ask(x -> x.slow(gate)), reference.slow(gate));
+        due("comes(" + gate + ")", mapper.ask(x -> x.comes(gate)), reference.is(gate));
+    }
+
+    private void compareWhat(int node, int cell, int what) {
+        due("mapped(" + what + ")", mapper.ask(x -> x.mapped(what)), reference.mapped(what));
+        due("table(" + node + ", " + what + ")", mapper.ask(x -> x.table(node, what)), reference.table(node, what));
+        due("cell(" + cell + ", " + what + ")", mapper.ask(x -> x.cell(cell, what)), reference.cell(cell, what));
     }
 
     private void compareClusters() {
         for (int i = 0; i < 3; i++) {
             int cells = 1 + random.nextInt(8);
             int nets = 6 + random.nextInt(11);
-            due("clusters(" + cells + ", " + nets + ")", mapper.clusters(cells, nets),
-                    reference.clusters(cells, nets));
-            due("cross(" + cells + ", " + nets + ")", mapper.cross(cells, nets), reference.cross(cells, nets));
+            String limit = "(" + cells + ", " + nets + ")";
+            due("clusters" + limit, mapper.ask(x -> x.clusters(cells, nets)), reference.clusters(cells, nets));
+            due("cross" + limit, mapper.ask(x -> x.cross(cells, nets)), reference.cross(cells, nets));
             int count = reference.mapped(4);
-            for (int cell = 0; cell < count; cell++) {
-                due("cluster(" + cells + ", " + nets + ", " + cell + ")", mapper.cluster(cells, nets, cell),
+            for (int c = 0; c < count; c++) {
+                int cell = c;
+                due("cluster" + limit + " of " + cell, mapper.ask(x -> x.cluster(cells, nets, cell)),
                         reference.cluster(cells, nets, cell));
             }
         }

@@ -37,10 +37,12 @@ public final class RandomRunsTest {
         }
     }
 
+    /** Each step is one call of the mapper, so that it has no more of them than the document speaks of. */
     private int run() {
-        due("inputs", mapper.inputs(3 + random.nextInt(4)), reference);
+        int k = 3 + random.nextInt(4);
+        due("inputs(" + k + ")", mapper.inputs(k), reference.inputs(k));
         for (int i = 1; i < CALLS; i++) {
-            if (random.nextInt(100) < tellShare && mapper.count(0) < mostNodes || i < 4) {
+            if (random.nextInt(100) < tellShare && reference.count(0) < mostNodes || i < 4) {
                 tell();
             } else if (random.nextInt(100) < 12) {
                 change();
@@ -54,23 +56,18 @@ public final class RandomRunsTest {
         return CALLS;
     }
 
-    private void due(String call, int k, Reference told) {
-        told.inputs(mapper.count(5));
-        checks.due(name + ": first " + call, k, 4);
-    }
-
     private void due(String call, long got, long want) {
         checks.due(name + ": " + call, got, want);
     }
 
     private int anyNode() {
-        int n = mapper.count(0);
+        int n = reference.count(0);
         return random.nextInt(20) == 0 ? random.nextInt(46) - 3 : n == 0 ? 0 : random.nextInt(n);
     }
 
     /** Often one of the newest, so that networks grow deep. */
     private int source() {
-        int n = mapper.count(0);
+        int n = reference.count(0);
         return random.nextInt(4) < backShare && n > 4 ? n - 1 - random.nextInt(4) : anyNode();
     }
 
@@ -128,10 +125,9 @@ public final class RandomRunsTest {
     }
 
     private void ask() {
-        if (mapper.count(6) == 0 && random.nextInt(3) == 0) {
+        if (reference.count(6) == 0 && random.nextInt(3) == 0) {
             due("map()", mapper.map(), reference.map());
-        }
-        if (random.nextBoolean()) {
+        } else if (random.nextBoolean()) {
             askOfNetwork();
         } else {
             askOfTables();
@@ -175,9 +171,9 @@ public final class RandomRunsTest {
     }
 
     private void askIsCut(int gate) {
-        long nodes = random.nextInt(4) == 0 ? 0 : mapper.kept(gate, random.nextInt(5));
+        long nodes = random.nextInt(4) == 0 ? 0 : reference.kept(gate, random.nextInt(5));
         for (int i = random.nextInt(4); i > 0; i--) {
-            nodes ^= 1L << random.nextInt(random.nextInt(4) == 0 ? 64 : 1 + mapper.count(0));
+            nodes ^= 1L << random.nextInt(random.nextInt(4) == 0 ? 64 : 1 + reference.count(0));
         }
         due("isCut(" + gate + ", " + nodes + ")", mapper.isCut(gate, nodes) ? 1 : 0,
                 reference.isCut(gate, nodes) ? 1 : 0);

@@ -34,19 +34,22 @@ public final class RefusedCallsTest {
     private static final String QUESTIONS_OF_FULL = """
         count([0..7]); node([0..39], [2 5]); near([9 24 39], [-1..4]); kept([24 39], [0..8]); depth(); chosen([9..39])
         table([30 39], [0..5]); holds([0 9 39]); mapped([0..5]); cell([0 10], [0..4]); clusters(8, 16); cross(8, 16)
-        cluster(8, 16, [0 10]); is([0..39]); comes([30..39]); differs([30..39], 1); slow([0..3]); again(1); mapped([0..5])
-        clock(1); is([0..8]); set(1, false); input(); output(0); map(); mapped([0..5]); inputs(3); map(); mapped([0..5])
+        cluster(8, 16, [0 10]); is([0..39]); comes([30..39]); differs([30..39], 1); slow([0..3])
+        again(1); mapped([0..5]); clock(1); is([0..8]); set(1, false); input(); output(0); map(); mapped([0..5])
+        inputs(3); map(); mapped([0..5])
         """;
 
     /** Refused in each state: no such KIND, NODE, REGISTER, K, SLACK, number of CLOCKS. */
     private static final String[] ALWAYS_REFUSED = {
-        "gate([MIN -1 7 MAX], 0, 0, 0) = -1", "gate(NOT, " + WRONG + ", 0, 0) = -1", "gate(AND, 0, " + WRONG + ", 0) = -1",
-        "gate(PICK, 0, 0, " + WRONG + ") = -1", "feed(" + WRONG + ", 0) = false", "feed(3, " + WRONG + ") = false",
-        "feed(0, 0) = false", "feed(4, 4) = false", "output(" + WRONG + ") = -1", "inputs([MIN -1 0 2 7 MAX]) = -1",
-        "again([MIN -1 6 MAX]) = -1", "set(" + WRONG + ", [true false]) = -1", "clock([MIN -1 0 65 MAX]) = -1",
-        "node(" + WRONG + ", 0) = -1", "node(0, [-1 8]) = -1", "near(" + WRONG + ", -1) = -1", "cone(" + WRONG + ") = -1",
-        "kept(" + WRONG + ", 0) = 0", "kept(4, [-1 8]) = 0", "isCut(" + WRONG + ", 0) = false", "isCut(4, -1) = false",
-        "chosen(" + WRONG + ") = 0", "table(" + WRONG + ", 0) = -1", "table(4, [-1 6]) = -1", "holds(" + WRONG + ") = throws",
+        "gate([MIN -1 7 MAX], 0, 0, 0) = -1", "gate(NOT, " + WRONG + ", 0, 0) = -1",
+        "gate(AND, 0, " + WRONG + ", 0) = -1", "gate(PICK, 0, 0, " + WRONG + ") = -1",
+        "feed(" + WRONG + ", 0) = false", "feed(3, " + WRONG + ") = false", "feed(0, 0) = false", "feed(4, 4) = false",
+        "output(" + WRONG + ") = -1", "inputs([MIN -1 0 2 7 MAX]) = -1", "again([MIN -1 6 MAX]) = -1",
+        "set(" + WRONG + ", [true false]) = -1", "clock([MIN -1 0 65 MAX]) = -1",
+        "node(" + WRONG + ", 0) = -1", "node(0, [-1 8]) = -1", "near(" + WRONG + ", -1) = -1",
+        "cone(" + WRONG + ") = -1", "kept(" + WRONG + ", 0) = 0", "kept(4, [-1 8]) = 0",
+        "isCut(" + WRONG + ", 0) = false", "isCut(4, -1) = false", "chosen(" + WRONG + ") = 0",
+        "table(" + WRONG + ", 0) = -1", "table(4, [-1 6]) = -1", "holds(" + WRONG + ") = throws",
         "mapped([-1 6]) = -1", "cell(" + WRONG + ", 0) = -2", "cell(0, [-1 5]) = -2", "clusters([0 9], 6) = -1",
         "clusters(1, [5 17]) = -1", "cluster([0 9], 6, 0) = -1", "cluster(1, [5 17], 0) = -1",
         "cluster(8, 16, " + WRONG + ") = -1", "cross([0 9], 6) = -1", "cross(1, [5 17]) = -1", "is(" + WRONG + ") = -1",
@@ -66,8 +69,8 @@ public final class RefusedCallsTest {
 
     private static final String[] REFUSED_IF_NOT_MAPPED = {
         "again([0..5]) = -1", "chosen([0..9]) = 0", "table([0..8], [0..5]) = -1", "holds([0..9]) = throws",
-        "mapped([0..5]) = -1", "cell([0..3], [0..4]) = -2", "clusters([1 8], [6 16]) = -1", "cluster([1 8], 6, [0..3]) = -1",
-        "cross([1 8], [6 16]) = -1", "comes([0..8]) = -1", "slow([0..3]) = -1"};
+        "mapped([0..5]) = -1", "cell([0..3], [0..4]) = -2", "clusters([1 8], [6 16]) = -1",
+        "cluster([1 8], 6, [0..3]) = -1", "cross([1 8], [6 16]) = -1", "comes([0..8]) = -1", "slow([0..3]) = -1"};
 
     private static final String[] ONLY_ASKED = {
         "node([0..8], [0..7])", "near([4..8], [-1..3])", "cone([4..8])", "kept([4..8], [0..8])", "isCut([4..8], {0 2})",
@@ -78,16 +81,17 @@ public final class RefusedCallsTest {
     private static final Checks CHECKS = new Checks();
 
     public static void main(String[] args) {
-        state("the small one, not MAPPED", SMALL, QUESTIONS_OF_SMALL, ALWAYS_REFUSED, SMALL_REFUSED, REFUSED_IF_NOT_MAPPED,
-                ONLY_ASKED);
-        state("the small one, MAPPED", SMALL + "map()\n", QUESTIONS_OF_SMALL, ALWAYS_REFUSED, SMALL_REFUSED, ONLY_ASKED);
-        state("the small one, chosen again", SMALL + "map(); again(1)\n", QUESTIONS_OF_SMALL, ALWAYS_REFUSED, SMALL_REFUSED,
-                ONLY_ASKED);
-        state("the small one, clusters asked", SMALL + "map(); cluster(2, 6, 0)\n", QUESTIONS_OF_SMALL, ALWAYS_REFUSED,
-                SMALL_REFUSED, ONLY_ASKED);
-        state("the full one, not MAPPED", FULL, QUESTIONS_OF_FULL, ALWAYS_REFUSED, FULL_REFUSED, REFUSED_IF_NOT_MAPPED);
-        state("the full one, MAPPED", FULL + "map()\n", QUESTIONS_OF_FULL, ALWAYS_REFUSED, FULL_REFUSED);
-        state("the full one, chosen again", FULL + "map(); again(5)\n", QUESTIONS_OF_FULL, ALWAYS_REFUSED, FULL_REFUSED);
+        String[][] ofSmall = {ALWAYS_REFUSED, SMALL_REFUSED, ONLY_ASKED};
+        state("the small one, not MAPPED", SMALL, QUESTIONS_OF_SMALL, ofSmall);
+        state("the small one, not MAPPED", SMALL, QUESTIONS_OF_SMALL, REFUSED_IF_NOT_MAPPED);
+        state("the small one, MAPPED", SMALL + "map()\n", QUESTIONS_OF_SMALL, ofSmall);
+        state("the small one, chosen again", SMALL + "map(); again(1)\n", QUESTIONS_OF_SMALL, ofSmall);
+        state("the small one, clusters asked", SMALL + "map(); cluster(2, 6, 0)\n", QUESTIONS_OF_SMALL, ofSmall);
+        String[][] ofFull = {ALWAYS_REFUSED, FULL_REFUSED};
+        state("the full one, not MAPPED", FULL, QUESTIONS_OF_FULL, ofFull);
+        state("the full one, not MAPPED", FULL, QUESTIONS_OF_FULL, REFUSED_IF_NOT_MAPPED);
+        state("the full one, MAPPED", FULL + "map()\n", QUESTIONS_OF_FULL, ofFull);
+        state("the full one, chosen again", FULL + "map(); again(5)\n", QUESTIONS_OF_FULL, ofFull);
         state("nothing", "", QUESTIONS_OF_SMALL, ALWAYS_REFUSED, REFUSED_IF_NOT_MAPPED);
         state("nothing, MAPPED", "map()\n", QUESTIONS_OF_SMALL, ALWAYS_REFUSED);
         CHECKS.end();

@@ -46,7 +46,7 @@ final class Script {
         }
     }
 
-    /** Numbers that are no NODE in any network: far off, next to the least, and those that a shift would take for 0 or 1. */
+    /** Numbers that are no NODE in any network: far off, next to NODES, and such as a shift would take for 0 or 1. */
     static final String WRONG = "[MIN -64 -63 -2 -1 40 63 64 65 MAX]";
 
     /** Is told each answer. */

@@ -36,8 +36,8 @@ final class SignalEdges {
         edges.run("the first and the last of 40", """
             40 * input(); set([0 39], true) = 0; is([0 1 38 39]) = 1 0 0 1; set([0 39], false) = 1; is([0 39]) = 0
             """);
-        edges.run("it stays over a CLOCK and over what is told", "input(); set(0, true); clock(64); input(); register(); "
-                + "is([0..2]) = 1 0 0; inputs(6); map(); is(0) = 1; set(0, true) = 1");
+        edges.run("it stays over a CLOCK and over what is told", "input(); set(0, true); clock(64); input(); "
+                + "register(); is([0..2]) = 1 0 0; inputs(6); map(); is(0) = 1; set(0, true) = 1");
     }
 
     private static void clock(Edges edges) {
@@ -53,7 +53,8 @@ final class SignalEdges {
             clock(3) = 1; map(); clock([MIN -64 -1 0 65 66 128 MAX]) = -1; is([0..6]) = 1 1 0 0 0 0 0; count(6) = 1
             clock(1) = 3
             """);
-        edges.run("by the last one alone", COUNTER + "clock(2) = 2; clock(2) = 3; clock(4) = 4; is([0..6]) = 0 0 0 1 0 0 0");
+        edges.run("by the last one alone", COUNTER + "clock(2) = 2; clock(2) = 3; clock(4) = 4; "
+                + "is([0..6]) = 0 0 0 1 0 0 0");
         edges.run("none", "clock([1 64]) = 0; 2 * input(); set(0, true); clock([1 64]) = 0; register(); clock(64) = 0; "
                 + "feed(2, 0); clock(2) = 0; is(2) = 1");
         edges.run("all 40", "39 * register(); gate(NOT, 0, 0, 0); feed([0..38], 39); clock(1) = 39; is([0..38]) = 1; "
@@ -75,7 +76,8 @@ final class SignalEdges {
             is([1..4]) = 0 1 1 1
             """);
         edges.run("a FEED told anew from the next one on", """
-            input(); register(); set(0, true); feed(1, 0); is(1) = 0; clock(1) = 1; feed(1, 1); set(0, false); clock(1) = 0
+            input(); register(); set(0, true); feed(1, 0); is(1) = 0; clock(1) = 1; feed(1, 1); set(0, false)
+            clock(1) = 0
             is(1) = 1
             """);
     }
@@ -84,7 +86,8 @@ final class SignalEdges {
         edges.sentence(26, "What a NODE is; NONE: others.");
         edges.run("no NODE", "input(); set(0, true); is(" + WRONG + ") = -1; is([0 1]) = 1 -1");
         edges.run("the first and the last of 40", "input(); gate(NOT, [0..38], 0, 0); is([0 1 38 39 40]) = 0 1 0 1 -1");
-        edges.sentence(26, "Each INPUT and each REGISTER is 0 or 1 (at first 0); a GATE is what its KIND makes of its SOURCES.");
+        edges.sentence(26, "Each INPUT and each REGISTER is 0 or 1 (at first 0); a GATE is what its KIND makes of its "
+                + "SOURCES.");
         edges.run("at first, and not MAPPED", """
             input(); register(); gate(NAND, 0, 1, 0); gate(OR, 0, 1, 0); is([0..3]) = 0 0 1 0; count(6) = 0
             """);
@@ -97,10 +100,11 @@ final class SignalEdges {
     private static void comes(Edges edges) {
         edges.sentence(27, "What a NODE is by TABLES; NONE: others, it is not MAPPED.");
         String one = "input(); register(); gate(NAND, 0, 1, 0); ";
-        edges.run("it is not MAPPED", one + "comes([0..3]) = -1; map(); comes([0..3]) = 0 0 1 -1; register(); comes([0..3]) = -1");
+        edges.run("it is not MAPPED", one + "comes([0..3]) = -1; map(); comes([0..3]) = 0 0 1 -1; register(); "
+                + "comes([0..3]) = -1");
         edges.run("no NODE", one + "map(); set(0, true); comes(" + WRONG + ") = -1; comes([0 3]) = 1 -1");
-        edges.run("the first and the last of 40", "input(); gate(NOT, [0..38], 0, 0); map(); comes([0 1 38 39 40]) = 0 1 0 1 -1; "
-                + "set(0, true); comes([0 1 38 39 40]) = 1 0 1 0 -1");
+        edges.run("the first and the last of 40", "input(); gate(NOT, [0..38], 0, 0); map(); "
+                + "comes([0 1 38 39 40]) = 0 1 0 1 -1; set(0, true); comes([0 1 38 39 40]) = 1 0 1 0 -1");
         edges.sentence(27, "By TABLES: a GATE is the bit of what it HOLDS that its CHOSEN tell, these by TABLES, too.");
         edges.run("6 NODES, the first and the last bit", """
             inputs(6); 6 * input(); gate(MOST, 0, 1, 2); gate(AND, 0, 1, 0); gate(AND, 7, 2, 0); gate(AND, 8, 3, 0)
@@ -123,19 +127,21 @@ final class SignalEdges {
         edges.sentence(28, "DIFFERS: 1, 0; NONE: others.");
         String one = "2 * input(); register(); gate(AND, 0, 2, 0); gate(XOR, 0, 1, 0); feed(2, 0); ";
         edges.run("no INPUT", one + "differs(4, [2 3 4 5]) = -1; differs(4, " + WRONG + ") = -1");
-        edges.run("no NODE", one + "differs(5, 0) = -1; differs(" + WRONG + ", 0) = -1; differs(" + WRONG + ", 2) = -1");
-        edges.run("the first and the last of 40", "39 * input(); gate(XOR, 0, 38, 0); differs(39, [0 1 38 39]) = 1 0 1 -1; "
-                + "differs([0 38], [0 38]) = 1 0 0 1");
+        edges.run("no NODE", one + "differs(5, 0) = -1; differs(" + WRONG + ", 0) = -1; differs(" + WRONG + ", 2) = "
+                + "-1");
+        edges.run("the first and the last of 40", "39 * input(); gate(XOR, 0, 38, 0); "
+                + "differs(39, [0 1 38 39]) = 1 0 1 -1; differs([0 38], [0 38]) = 1 0 0 1");
         edges.run("not MAPPED", one + "count(6) = 0; differs(4, [0 1]) = 1");
         edges.sentence(28, "DIFFERS of a NODE: whether it would be another one, were an INPUT another one.");
         edges.run("an INPUT, itself and another one", one + "differs([0 1], [0 1]) = 1 0 0 1");
-        edges.run("a REGISTER, though the INPUT is its FEED", one + "differs(2, [0 1]) = 0; set(0, true); differs(2, 0) = 0");
+        edges.run("a REGISTER, though the INPUT is its FEED", one + "differs(2, [0 1]) = 0; set(0, true); "
+                + "differs(2, 0) = 0");
         edges.run("from 0 to 1 and from 1 to 0", one + """
             differs(3, 0) = 0; differs(4, 0) = 1; set(0, true); clock(1) = 1; differs([3 4], 0) = 1; set(0, false)
             differs([3 4], 0) = 1
             """);
-        edges.run("two ways that undo one another", "input(); gate(NOT, 0, 0, 0); gate(XOR, 0, 1, 0); gate(OR, 0, 1, 0); "
-                + "gate(MOST, 0, 1, 2); differs([1..4], 0) = 1 0 0 0");
+        edges.run("two ways that undo one another", "input(); gate(NOT, 0, 0, 0); gate(XOR, 0, 1, 0); "
+                + "gate(OR, 0, 1, 0); gate(MOST, 0, 1, 2); differs([1..4], 0) = 1 0 0 0");
         edges.run("nothing is changed by it", one + """
             map(); set(0, true); 2 * differs(4, [0 1]) = 1; is([0..4]) = 1 0 0 0 1; comes(4) = 1; count(6) = 1
             clock(1) = 1; set(0, true) = 1; set(1, true) = 0

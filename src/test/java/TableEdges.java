@@ -119,8 +119,8 @@ final class TableEdges {
     }
 
     private static void due(Edges edges) {
-        edges.sentence(9, "DUE, as all is ahead of it: of a ROOT DEPTH and SLACK, of one in the CHOSEN of a TABLE 1 less "
-                + "than that of the TABLE; of several the least.");
+        edges.sentence(9, "DUE, as all is ahead of it: of a ROOT DEPTH and SLACK, of one in the CHOSEN of a TABLE 1 "
+                + "less than that of the TABLE; of several the least.");
         // 9 by {0 2 8} would come to 3: as a ROOT it could, but it is in the CHOSEN of 11.
         String two = """
             inputs(3); 5 * input(); gate(AND, 2, 0, 0); gate(MOST, 0, 2, 5); gate(AND, 1, 5, 0); gate(AND, 7, 4, 0)
@@ -148,8 +148,8 @@ final class TableEdges {
             map() = 4; depth() = 2; isCut(8, {3 4 7}) = true; again(0) = 0; chosen(8) = {1 5 6}
             again(1) = 1; chosen(8) = {3 4 7}; table(8, 1) = 3
             """);
-        edges.sentence(9, "that one, by which there are the fewest TABLES in all; of these that by which its ARRIVAL is "
-                + "least; of these its CHOSEN, or else the first in ROW.");
+        edges.sentence(9, "that one, by which there are the fewest TABLES in all; of these that by which its ARRIVAL "
+                + "is least; of these its CHOSEN, or else the first in ROW.");
         edges.run("the first in ROW of two with the fewest", TWO_AND_ONE + """
             map() = 3; kept(6, [0..3]) = {4 5} {0 2 5} {1 3 4} 0; again(0) = 1; chosen(6) = {0 2 5}
             """);
@@ -169,6 +169,17 @@ final class TableEdges {
             gate(AND, 6, 8, 0); gate(AND, 10, 0, 0); output([8 9 11]); map() = 6; chosen(11) = {0 10}
             again(1) = 1; chosen([10 11]) = {2 5 8} {0 6 8}; table([10 11], 1) = 3; table([6 10], 0) = 1 0
             mapped([0 1]) = 5 3
+            """);
+        // By {1 7 9} and {7 8 9} 12 comes to 3, by its CHOSEN and by {1 7 10} to 4, each with five TABLES.
+        edges.run("the first in ROW of those with the least ARRIVAL", """
+            inputs(3); 5 * input(); gate(MOST, 3, 2, 1); gate(AND, 5, 5, 0); gate(AND, 6, 0, 0); gate(AND, 1, 1, 0)
+            gate(AND, 2, 4, 0); gate(MOST, 7, 7, 9); gate(AND, 8, 10, 0); gate(MOST, 7, 7, 11); output([6 7 8 12])
+            map() = 6; chosen([10 12]) = {0 6 9} {7 8 10}; kept(12, [0..3]) = {1 7 9} {1 7 10} {7 8 9} {7 8 10}
+            again(1) = 1; chosen([10 12]) = {2 4 7} {1 7 9}; table([10 12], 1) = 3
+            """);
+        edges.run("a TABLE that the next one has, too, is not spared", """
+            inputs(3); 4 * input(); gate(AND, 0, 2, 0); gate(AND, 1, 3, 0); gate(AND, 4, 5, 0); gate(OR, 4, 5, 0)
+            output([6 7]); map() = 4; again([0 5]) = 0; chosen([6 7]) = {4 5}
             """);
         edges.sentence(9, "TABLE by TABLE, by numbers (those that are TABLES as its turn comes)");
         edges.run("the lower one first", """
@@ -193,7 +204,8 @@ final class TableEdges {
             """);
         edges.sentence(18, "CHOSEN of a GATE: a CUT.");
         edges.run("behind MAP and behind AGAIN", ONE_LATER + """
-            map(); isCut(8, {1 5 6}) = true; chosen(8) = {1 5 6}; again(1); isCut(8, {3 4 7}) = true; chosen(8) = {3 4 7}
+            map(); isCut(8, {1 5 6}) = true; chosen(8) = {1 5 6}; again(1); isCut(8, {3 4 7}) = true
+            chosen(8) = {3 4 7}
             """);
     }
 
@@ -203,8 +215,8 @@ final class TableEdges {
         edges.run("the least and the greatest what", TWO_AND_ONE + """
             map(); table(4, [MIN -2 -1 0 1 2 3 4 5 6 7 64 MAX]) = -1 -1 -1 1 1 1 -1 0 3 -1 -1 -1 -1
             """);
-        edges.run("no GATE", TWO_AND_ONE + "register(); map(); table([0 3 7 8], [0..5]) = -1; table(" + WRONG
-                + ", [0 5]) = -1");
+        edges.run("no GATE", TWO_AND_ONE + "register(); map(); table([0 3 7 8], [0..5]) = -1; table(" + WRONG + ", [0 "
+                + "5]) = -1");
         edges.run("it is not MAPPED", TWO_AND_ONE + """
             table([4..6], [0..5]) = -1; map(); table(6, [0..5]) = 1 2 0 -1 2 3; input(); table([4..6], [0..5]) = -1
             """);
@@ -233,7 +245,8 @@ final class TableEdges {
     }
 
     private static void cares(Edges edges) {
-        edges.sentence(19, "CARES of a GATE: NODES of its CHOSEN on which what it HOLDS hangs (bits by their place in it).");
+        edges.sentence(19, "CARES of a GATE: NODES of its CHOSEN on which what it HOLDS hangs (bits by their place in "
+                + "it).");
         edges.run("none, and all 6", """
             inputs(6); 6 * input(); gate(XOR, 0, 0, 0); gate(XOR, 0, 1, 0); gate(XOR, 7, 2, 0); gate(XOR, 8, 3, 0)
             gate(XOR, 9, 4, 0); gate(XOR, 10, 5, 0); map(); table([6..11], 5) = 0 3 7 15 31 63
@@ -254,13 +267,15 @@ final class TableEdges {
         edges.run("it is not MAPPED", TWO_AND_ONE + """
             holds([0 4 6 7]) = throws; map(); holds(4) = 8; register(); holds([4 6]) = throws
             """);
-        edges.run("no GATE", TWO_AND_ONE + "register(); map(); holds([0 3 7 8]) = throws; holds(" + WRONG + ") = throws");
+        edges.run("no GATE", TWO_AND_ONE + "register(); map(); holds([0 3 7 8]) = throws; holds(" + WRONG + ") = "
+                + "throws");
         edges.run("nothing is changed by it", TWO_AND_ONE + """
             map() = 3; holds(40) = throws; count(6) = 1; holds(6) = 8; mapped(0) = 3
             """);
-        edges.run("the last of 40", "39 * input(); gate(NAND, 38, 0, 0); map(); holds(39) = 7; holds([38 40]) = throws");
-        edges.sentence(20, "HOLDS of a GATE: by its CHOSEN, NODES upwards, the i-th being bit i of j: bit j is what the GATE "
-                + "is then (2 to the power of its NODES bits).");
+        edges.run("the last of 40", "39 * input(); gate(NAND, 38, 0, 0); map(); holds(39) = 7; "
+                + "holds([38 40]) = throws");
+        edges.sentence(20, "HOLDS of a GATE: by its CHOSEN, NODES upwards, the i-th being bit i of j: bit j is what "
+                + "the GATE is then (2 to the power of its NODES bits).");
         edges.run("1 to 6 NODES, the last bit alone", """
             inputs(6); 6 * input(); gate(AND, 0, 0, 0); gate(AND, 0, 1, 0); gate(AND, 7, 2, 0); gate(AND, 8, 3, 0)
             gate(AND, 9, 4, 0); gate(AND, 10, 5, 0); map()
@@ -289,8 +304,8 @@ final class TableEdges {
     }
 
     private static void whole(Edges edges) {
-        edges.sentence(21, "What 0: TABLES, 1: the greatest ARRIVAL of ROOTS (0: none), 2: PAIRS, 3: MOST PAIRS "
-                + "(NONE: more than 14 TABLES), 4: CELLS, 5: packed REGISTERS; NONE: others, it is not MAPPED.");
+        edges.sentence(21, "What 0: TABLES, 1: the greatest ARRIVAL of ROOTS (0: none), 2: PAIRS, 3: MOST PAIRS (NONE: "
+                + "more than 14 TABLES), 4: CELLS, 5: packed REGISTERS; NONE: others, it is not MAPPED.");
         edges.run("the least and the greatest what", TWO_AND_ONE + """
             map(); mapped([MIN -2 -1 0 1 2 3 4 5 6 7 64 MAX]) = -1 -1 -1 3 2 0 0 3 0 -1 -1 -1 -1
             """);
@@ -307,8 +322,8 @@ final class TableEdges {
                 + "gate(XOR, 0, 1, 0); output(15); feed(14, 13); map() = 13; mapped([0 2 3]) = 13 6 6");
         edges.run("14 TABLES", tables + "2 * gate(OR, 0, 1, 0); 2 * register(); feed(16, 14); feed(17, 15); "
                 + "map() = 14; mapped([0 2 3 4 5]) = 14 7 7 7 2");
-        edges.run("15 TABLES", tables + "3 * gate(OR, 0, 1, 0); 3 * register(); feed(17, 14); feed(18, 15); feed(19, 16); "
-                + "map() = 15; mapped([0 2 3 4 5]) = 15 7 -1 8 3");
+        edges.run("15 TABLES", tables + "3 * gate(OR, 0, 1, 0); 3 * register(); feed(17, 14); feed(18, 15); "
+                + "feed(19, 16); map() = 15; mapped([0 2 3 4 5]) = 15 7 -1 8 3");
         edges.run("14 TABLES that are no PAIRS", "inputs(3); 3 * input(); 12 * gate(MOST, 0, 1, 2); output([3..14]); "
                 + "2 * gate(MOST, 0, 1, 2); 2 * register(); feed(17, 15); feed(18, 16); map() = 14; "
                 + "mapped([0 2 3 4]) = 14 0 0 14");
@@ -321,10 +336,10 @@ final class TableEdges {
             """);
         edges.run("it is not MAPPED", TWO_AND_ONE + "slow([-1..3]) = -1; map(); slow(0) = 6; inputs(6); slow(0) = -1");
         edges.run("no ROOT", "map(); slow(0) = -1; 2 * input(); gate(AND, 0, 1, 0); map(); slow([0 1]) = -1");
-        edges.run("a LEAF alone", "3 * input(); output([2 1]); map(); slow([0 1]) = 1 -1; register(); feed(3, 0); map(); "
-                + "slow([0 1]) = 0 -1");
-        edges.sentence(29, "SLOW: a way from the lowest ROOT with the greatest ARRIVAL: from each on to the lowest one in its "
-                + "CHOSEN with the greatest ARRIVAL, up to a LEAF.");
+        edges.run("a LEAF alone", "3 * input(); output([2 1]); map(); slow([0 1]) = 1 -1; register(); feed(3, 0); "
+                + "map(); slow([0 1]) = 0 -1");
+        edges.sentence(29, "SLOW: a way from the lowest ROOT with the greatest ARRIVAL: from each on to the lowest one "
+                + "in its CHOSEN with the greatest ARRIVAL, up to a LEAF.");
         edges.run("the lowest of equal ROOTS, told last", """
             inputs(3); 4 * input(); gate(MOST, 0, 1, 2); gate(AND, 4, 3, 0); gate(OR, 4, 3, 0); output([6 5 4 0]); map()
             slow([0..3]) = 5 4 0 -1

@@ -98,8 +98,8 @@ final class TellingEdges {
     }
 
     private static void gate(Edges edges) {
-        edges.sentence(3, "A GATE (b, c are not looked at, if its KIND has fewer SOURCES): its number; "
-                + "NONE: others, 40 there are.");
+        edges.sentence(3, "A GATE (b, c are not looked at, if its KIND has fewer SOURCES): its number; NONE: others, "
+                + "40 there are.");
         edges.run("the least and the greatest KIND", """
             3 * input(); gate([MIN -2 -1 7 8 64 MAX], 0, 1, 2) = -1; count(0) = 3
             gate([0..6], 0, 1, 2) = [3..9]; node([3..9], 1) = [0..6]
@@ -134,8 +134,8 @@ final class TellingEdges {
             gate(AND, 1, 2, 0) = -1; gate(AND, 2, 1, 0) = -1; gate(AND, 1, 0, 0) = 2
             gate(MOST, 3, 2, 1) = -1; gate(MOST, 2, 1, 3) = -1; gate(MOST, 2, 1, 0) = 3
             """);
-        edges.run("no NODE at all", "input(); gate(NOT, " + WRONG + ", 0, 0) = -1; gate(AND, 0, " + WRONG
-                + ", 0) = -1; gate(PICK, 0, 0, " + WRONG + ") = -1; gate(MOST, " + WRONG + ", 0, 0) = -1; count(0) = 1");
+        edges.run("no NODE at all", "input(); gate(NOT, " + WRONG + ", 0, 0) = -1; gate(AND, 0, " + WRONG + ", 0) = "
+                + "-1; gate(PICK, 0, 0, " + WRONG + ") = -1; gate(MOST, " + WRONG + ", 0, 0) = -1; count(0) = 1");
         edges.run("the first and the last of 40", """
             39 * input(); gate(MOST, 38, 0, 38) = 39; node(39, [2..4]) = 38 0 38
             """);
@@ -212,7 +212,8 @@ final class TellingEdges {
             """);
         edges.run("it is one, 12 there are", "13 * input(); output([1..12]); output([1 12 0]) = -1; count(4) = 12");
         edges.run("no NODE", "input(); register(); output(" + WRONG + ") = -1; output(2) = -1; count([4 7]) = 0 1");
-        edges.run("no NODE, 40 there are", "40 * input(); output(" + WRONG + ") = -1; output([39 0]) = 1 2; count(4) = 2");
+        edges.run("no NODE, 40 there are", "40 * input(); output(" + WRONG + ") = -1; output([39 0]) = 1 2; "
+                + "count(4) = 2");
         edges.run("a refused one changes nothing", """
             2 * input(); output(1); map() = 0; output([1 2 -1]) = -1; count([4 6 7]) = 1 1 1; output(0) = 2
             count(6) = 0
