@@ -18,7 +18,8 @@ public final class FormTest {
         "int input()", "int gate(int,int,int,int)", "int register()", "boolean feed(int,int)", "int output(int)",
         "int inputs(int)", "int map()", "int again(int)", "int set(int,boolean)", "int clock(int)", "int node(int,int)",
         "int near(int,int)", "int cone(int)", "long kept(int,int)", "boolean isCut(int,long)", "int depth()",
-        "long chosen(int)", "int table(int,int)", "long holds(int)", "int mapped(int)", "int cell(int,int)",
+        "long chosen(int)", "int table(int,int)", "long holds(int) throws java.util.NoSuchElementException",
+        "int mapped(int)", "int cell(int,int)",
         "int clusters(int,int)", "int cluster(int,int,int)", "int cross(int,int)", "int is(int)", "int comes(int)",
         "int differs(int,int)", "int slow(int)", "int count(int)"};
     private static final String[] NOT_IN_THE_LANGUAGE = {
@@ -64,11 +65,14 @@ public final class FormTest {
         for (String name : closedNames) {
             due(name + " is no name of the face", !openNames.contains(name));
         }
-        due("final", Modifier.isFinal(TableMapper.class.getModifiers()));
+        due("final and public", Modifier.isFinal(TableMapper.class.getModifiers())
+                && Modifier.isPublic(TableMapper.class.getModifiers()));
         due("one constructor", TableMapper.class.getDeclaredConstructors().length == 1);
         for (Field field : TableMapper.class.getDeclaredFields()) {
-            due(field + " is private", Modifier.isPrivate(field.getModifiers()) || field.getName().equals("NONE"));
+            boolean isPrivate = Modifier.isPrivate(field.getModifiers());
+            due(field + " is closed", isPrivate || field.toString().equals("public static final int TableMapper.NONE"));
         }
+        due("one open field", TableMapper.class.getFields().length == 1);
     }
 
     private static String signature(Method method) {
@@ -76,7 +80,12 @@ public final class FormTest {
         for (Class<?> type : method.getParameterTypes()) {
             parameters.add(type.getName());
         }
-        return method.getReturnType().getName() + " " + method.getName() + "(" + String.join(",", parameters) + ")";
+        StringBuilder thrown = new StringBuilder();
+        for (Class<?> type : method.getExceptionTypes()) {
+            thrown.append(" throws ").append(type.getName());
+        }
+        return method.getReturnType().getName() + " " + method.getName() + "(" + String.join(",", parameters) + ")"
+                + thrown;
     }
 
     private static void classesInside() {
