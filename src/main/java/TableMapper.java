@@ -612,7 +612,7 @@ public final class TableMapper {
             lowerSeen = 0;
             queued = 0;
             seeUppers(starts, NONE);
-            for (int i = 0; i < queued; i++) {
+            for (int i = 0; i < queued && i < queue.length; i++) {
                 int end = queue[i];
                 int node = end < MOST_NODES ? end : end - MOST_NODES;
                 if (end == node) {

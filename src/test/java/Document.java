@@ -28,7 +28,8 @@ final class Document {
         return text.replaceAll("```(text|java)?", " ").replaceAll("==== \\d\\.", " ").replaceAll("\\s+", " ").trim();
     }
 
-    private String promise(int number) {
+    /** All that stands under the promise's own heading. */
+    String promise(int number) {
         for (Map.Entry<String, String> section : sections.entrySet()) {
             if (section.getKey().startsWith("Promise " + number + ":")) {
                 return section.getValue();
