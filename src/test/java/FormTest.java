@@ -34,7 +34,11 @@ public final class FormTest {
         face();
         classesInside();
         String text = Files.readString(Path.of("src/main/java/TableMapper.java"));
-        words(text);
+        String code = text.replaceAll("(?s)/\\*.*?\\*/", "").replaceAll("//[^\n]*", "");
+        documentsFace(text);
+        words(text, code);
+        loops(code);
+        objects(code);
         methodLengths(text);
         CHECKS.end();
     }
@@ -75,6 +79,20 @@ public final class FormTest {
         due("one open field", TableMapper.class.getFields().length == 1);
     }
 
+    /** The document's lines of the face stand in the class as they are, with the names of the parameters too. */
+    private static void documentsFace(String text) throws IOException {
+        List<String> heads = new ArrayList<>();
+        for (String line : Files.readAllLines(Path.of("../shared/DOC.md"))) {
+            if (line.startsWith("    public ")) {
+                heads.add(line.contains("=") ? line : line.replace(";", " {"));
+            }
+        }
+        due("the document has a constant, a constructor and each call", heads.size() == FACE.length + 2);
+        for (String head : heads) {
+            due("as the document has it: " + head.trim(), text.contains("\n" + head + "\n"));
+        }
+    }
+
     private static String signature(Method method) {
         List<String> parameters = new ArrayList<>();
         for (Class<?> type : method.getParameterTypes()) {
@@ -107,8 +125,7 @@ public final class FormTest {
         }
     }
 
-    private static void words(String text) {
-        String code = text.replaceAll("(?s)/\\*.*?\\*/", "").replaceAll("//[^\n]*", "");
+    private static void words(String text, String code) {
         for (String word : NOT_IN_THE_LANGUAGE) {
             Matcher matcher = Pattern.compile(word).matcher(code);
             due("no " + word, !matcher.find());
@@ -121,6 +138,36 @@ public final class FormTest {
         for (char sign : text.toCharArray()) {
             if (sign > 126) {
                 due("sign " + (int) sign, false);
+            }
+        }
+    }
+
+    /** Rule 9: a counter up to or down to a bound, or the NODES of a set, each taken off it in its turn. */
+    private static void loops(String code) {
+        String up = "for \\(int (\\w+) = [^;]+; \\1 <=? [^;]+; \\1\\+\\+\\) \\{";
+        String down = "for \\(int (\\w+) = [^;]+; \\1 >= [^;]+; \\1--\\) \\{";
+        String taken = "for \\(long (\\w+) = [^;]+; \\1 != 0( && [^;]+)?; \\1 &= \\1 - 1\\) \\{";
+        int loops = 0;
+        for (String line : code.split("\n")) {
+            String head = line.trim();
+            if (Pattern.compile("\\b(for|while|do)\\b").matcher(head).find()) {
+                due("the loop's end is seen: " + head, head.matches(up) || head.matches(down) || head.matches(taken));
+                loops++;
+            }
+        }
+        due("loops", loops > 0);
+    }
+
+    /** Rule 12, and the one room of all calls: rows are made with the object, and no call makes anything more. */
+    private static void objects(String code) {
+        Pattern field = Pattern.compile("(private )?final (int|long)\\[\\] \\w+ = new (int|long)\\[.*\\];");
+        boolean isMaking = false;
+        for (String line : code.split("\n")) {
+            String told = line.trim();
+            isMaking = told.equals("public TableMapper() {") || isMaking && !line.equals("    }");
+            if (Pattern.compile("\\bnew\\b|\\.clone\\(|\\bcopyOf").matcher(told).find()) {
+                due("made with the object: " + told,
+                        isMaking || field.matcher(told).matches() || told.startsWith("throw new "));
             }
         }
     }

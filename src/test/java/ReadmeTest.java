@@ -16,7 +16,8 @@ public final class ReadmeTest {
     private static final Pattern BLOCK = Pattern.compile("(?s)```java\n(.*?)```");
     private static final Pattern MADE = Pattern.compile("TableMapper x = new TableMapper\\(\\);");
     private static final Pattern CALL = Pattern.compile(
-            "(?:int (\\w+) = )?x\\.(\\w+)\\((.*?)\\); +// (-?\\d+|true|false|throws NoSuchElementException)(?:[:;] .*)?");
+            "(?:int (\\w+) = )?x\\.(\\w+)\\((.*?)\\); +"
+                    + "// (-?\\d+|true|false|throws NoSuchElementException)(?:[:;] .*)?");
     private static final Checks CHECKS = new Checks();
 
     private final String page = Files.readString(Path.of("README.md"));
@@ -45,7 +46,7 @@ public final class ReadmeTest {
             }
         }
         Script.run(script.toString(), (call, got, due) ->
-                CHECKS.due("README.md: " + call + " answered " + got + ", the page says " + due, got.equals(due), true));
+                CHECKS.due("README.md: " + call + " is " + got + ", the page says " + due, got.equals(due), true));
     }
 
     /** As Script has it; a line that is neither an object made nor a call with an answer is a fault of the page. */
